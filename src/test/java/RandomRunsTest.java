@@ -67,9 +67,8 @@ public final class RandomRunsTest {
     }
 
     private String term(int n, int budget) {
-        String symbols = n == 0 ? "abcdSFGH" : n == 3 ? ALL : "abcdSFGHx";
-        String leaves = n == 0 ? "ccdS" : n == 3 ? "cdSxxyy" : "cdSxxx";
-        String from = budget <= 2 ? leaves : symbols;
+        String variables = n == 0 ? "" : n == 3 ? "xxyy" : "xxx";
+        String from = budget <= 2 ? "cdS" + variables : "aabbFFGGHHHcdS" + variables;
         char symbol = from.charAt(random.nextInt(from.length()));
         if ("aH".indexOf(symbol) >= 0) {
             return symbol + term(n, budget / 2) + term(n, budget / 2);
@@ -171,7 +170,7 @@ public final class RandomRunsTest {
                     program.removeTransition(q, t), oracle.removeTransition(q, t));
                 break;
             case 5:
-                int i = about(0, 8);
+                int i = inlineIndex(n);
                 Check.due("inline(" + n + ", " + i + ")", program.inline(n, i), oracle.inline(n, i));
                 break;
             case 6:
@@ -192,13 +191,34 @@ public final class RandomRunsTest {
 
     // ---- questions
 
+    /** Mostly the path of a node, if there are any so deep. */
     private int path() {
         int path = 0;
+        boolean strict = random.nextInt(4) > 0;
         for (int steps = random.nextInt(7); steps > 0; steps--) {
-            path = 10 * path + pick(1, 2);
+            int next = 10 * path + pick(1, 2);
+            if (strict && oracle.labelAt(next) == RecursionSchemes.NONE) {
+                next = 10 * path + 1;
+            }
+            if (strict && oracle.labelAt(next) == RecursionSchemes.NONE) {
+                break;
+            }
+            path = next;
         }
-        int dice = random.nextInt(12);
+        int dice = random.nextInt(20);
         return dice == 0 ? random.nextInt(1300) - 20 : dice == 1 ? 10 * path + pick(0, 9) : path;
+    }
+
+    /** Mostly the index of a nonterminal in the body, if there is one. */
+    private int inlineIndex(int n) {
+        int start = about(0, 8);
+        for (int i = 0; i < oracle.bodyLength(n) && random.nextInt(30) > 0; i++) {
+            int at = Math.floorMod(start + i, oracle.bodyLength(n));
+            if ("SFGH".indexOf(oracle.bodySymbol(n, at)) >= 0) {
+                return at;
+            }
+        }
+        return start;
     }
 
     private long script(int n) {

@@ -285,6 +285,8 @@ public final class StatePromisesTest {
         due("reachable()", Check.loaded("F=S;G=HSS;").reachable(), 1);
         due("reachable()", Check.loaded("S=S;").reachable(), 1);
         due("reachable()", Check.loaded("S=bGc;").reachable(), 5);
+        due("reachable()", Check.loaded("S=aFcGc;").reachable(), 7);
+        due("reachable()", Check.loaded("S=HFcGd;").reachable(), 15);
         due("reachable()", Check.loaded("S=Hcc;H=Gx;G=Fx;").reachable(), 15);
         due("reachable()", Check.loaded("S=Fc;F=Gx;G=Hxx;").reachable(), 15);
         due("reachable()", Check.loaded("S=Hcc;H=Fx;F=Fx;G=Fx;").reachable(), 11);
@@ -433,6 +435,12 @@ public final class StatePromisesTest {
         due("undo()", x.undo(), 0);
         Check.bodyIs(x, 0, "FGc");
         Check.bodyIs(x, 2, "axFd");
+        x = Check.loaded("F=bx;G=x;0b1;");
+        due("typingCount(1)", x.typingCount(1), 4);
+        due("typingCount(2)", x.typingCount(2), 12);
+        due("exchange()", x.exchange(), 0);
+        due("typingCount(1)", x.typingCount(1), 12);
+        due("typingCount(2)", x.typingCount(2), 4);
         x = new RecursionSchemes();
         due("exchange()", x.exchange(), 0);
         due("undo()", x.undo(), 0);
