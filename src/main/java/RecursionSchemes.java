@@ -42,9 +42,7 @@ public final class RecursionSchemes {
     private static final int REMEMBERED = 14;
     private static final int SLOTS = 2;
     private static final int NO_NODE = 0;
-    private static final long[] GROUP_UNITS = {
-        1L, 10000L, 100000000L, 1000000000000L, 10000000000000000L
-    };
+    private static final int GROUP_UNIT = 10000;
 
     private final Text text;
     private final Scheme scheme;
@@ -288,12 +286,12 @@ public final class RecursionSchemes {
     // ---- scripts, random descents
 
     public int runScript(int n, long script) {
-        if (n < 1 || n > MAX_COMMANDS || script < 0 || script >= GROUP_UNITS[n]) {
+        if (n < 1 || n > MAX_COMMANDS || script < 0 || withoutLastGroups(script, n) != 0) {
             return BAD_VALUE;
         }
         copy.become(scheme);
         for (int i = 0; i < n; i++) {
-            int group = (int) (script / GROUP_UNITS[n - 1 - i] % GROUP_UNITS[1]);
+            int group = (int) (withoutLastGroups(script, n - 1 - i) % GROUP_UNIT);
             if (!commandSucceeds(group)) {
                 return i;
             }
@@ -312,7 +310,7 @@ public final class RecursionSchemes {
             int node = Tree.ROOT;
             for (int depth = 0; depth < MAX_DEPTH; depth++) {
                 int children = tree.childCount(node);
-                if (children == 0) {
+                if (children <= 0) {
                     break;
                 }
                 z = z * 6364136223846793005L + 1442695040888963407L;
@@ -347,6 +345,14 @@ public final class RecursionSchemes {
     }
 
     // ---- helpers
+
+    private static long withoutLastGroups(long script, int count) {
+        long rest = script;
+        for (int i = 0; i < count; i++) {
+            rest /= GROUP_UNIT;
+        }
+        return rest;
+    }
 
     private boolean commandSucceeds(int group) {
         int second = group / 100 % 10;
