@@ -256,7 +256,7 @@ public final class PromiseEdgesTest {
     }
 
     private static void absentTransitions() {
-        Check.sentence("promise 8", "NO_SUCH_INDEX if q or t does not exist; NONE if there is no transition.");
+        Check.sentence("promise 8", "NO_SUCH_INDEX if q or t does not exist .. NONE if there is no transition.");
         RecursionSchemes x = Check.loaded("0a00;2b0;");
         due("transition(0, 0, 1), a state 0", x.transition(0, 0, 1), 0);
         due("transition(0, 0, 2)", x.transition(0, 0, 2), 0);

@@ -7,6 +7,18 @@ public final class StateEdgesTest {
     /** With those that load it, an object is never asked more than 512 times. */
     private static final int CALLS_OF_AN_OBJECT = 400;
     private static final String NEW_STATE = "S=c;F=c;G=c;H=c;";
+    private static final String OTHER_GROUPS = "Any other group fails.";
+    /** What the document says of the groups from each thousand on. */
+    private static final String[] COMMANDS = {
+        OTHER_GROUPS,
+        "1 q t 0: removes the transition of state q, 0 to 2, and terminal t, 0 to 3; fails if there is none.",
+        "2 q s 0: gives the terminal b a transition from state q to state s, both 0 to 2.",
+        "3 0 0 r: succeeds if r is 1 and the automaton accepts the tree, or r is 0 and it does not.",
+        "4 n x y: succeeds if nonterminal n, 0 to 3, has exactly xy valid typings.",
+        "5 d x y: succeeds if the tree has exactly xy nodes at depth d, 0 to 6.",
+        "6 0 x y: succeeds if the type check has exactly xy rounds.",
+        OTHER_GROUPS, OTHER_GROUPS, OTHER_GROUPS
+    };
 
     private StateEdgesTest() {
     }
@@ -285,7 +297,7 @@ public final class StateEdgesTest {
     }
 
     private static void fifteenthOfEachKind() {
-        Check.sentence("ACTIONS AND UNDO", "a fifteenth action, of each kind");
+        Check.sentence("ACTIONS AND UNDO, each kind of action", "when a fifteenth action happens");
         for (int kind = 0; kind < 5; kind++) {
             RecursionSchemes x = Check.loaded("S=Fc;F=bx;0b0;");
             due("exchange()", x.exchange(), 1);
@@ -320,7 +332,7 @@ public final class StateEdgesTest {
     }
 
     private static void fullAgainAfterUndo() {
-        Check.sentence("ACTIONS AND UNDO", "the last 14 actions, after some were taken back");
+        Check.sentence("ACTIONS AND UNDO, some taken back", "the last 14 actions");
         // What is taken back makes room: the 14 states are full again, and none is forgotten.
         RecursionSchemes x = withActions(14);
         due("undo()", x.undo(), 13);
@@ -340,7 +352,7 @@ public final class StateEdgesTest {
     }
 
     private static void manyActions() {
-        Check.sentence("ACTIONS AND UNDO", "the last 14 actions, of many more");
+        Check.sentence("ACTIONS AND UNDO, of many more", "the last 14 actions");
         for (int count : new int[] {27, 28, 29, 42, 43, 400}) {
             RecursionSchemes x = new RecursionSchemes();
             for (int i = 1; i <= count; i++) {
@@ -357,7 +369,7 @@ public final class StateEdgesTest {
     }
 
     private static void textIsNotPartOfTheState() {
-        Check.sentence("ACTIONS AND UNDO", "The text and the save slots are not part of the state, the text");
+        Check.sentence("ACTIONS AND UNDO, the text", "The text and the save slots are not part of the state.");
         RecursionSchemes x = new RecursionSchemes();
         Check.write(x, "bd");
         due("setBody(0)", x.setBody(0), 2);
@@ -370,7 +382,7 @@ public final class StateEdgesTest {
     }
 
     private static void slotsAreNotPartOfTheState() {
-        Check.sentence("ACTIONS AND UNDO", "The text and the save slots are not part of the state, the slots");
+        Check.sentence("ACTIONS AND UNDO, the slots", "The text and the save slots are not part of the state.");
         RecursionSchemes x = Check.loaded("S=d;0d;");
         due("exchange()", x.exchange(), 0);
         due("removeTransition(0, 3)", x.removeTransition(0, 3), 0);
@@ -498,6 +510,7 @@ public final class StateEdgesTest {
             if (group % CALLS_OF_AN_OBJECT == 0) {
                 x = Check.loaded(setup);
             }
+            Check.sentence("SCRIPTS", COMMANDS[group / 1000]);
             int second = group / 100 % 10;
             int third = group / 10 % 10;
             int fourth = group % 10;
@@ -516,7 +529,6 @@ public final class StateEdgesTest {
     }
 
     private static void allGroups() {
-        Check.sentence("SCRIPTS", "1 q t 0 .. 6 0 x y .. Any other group fails.");
         groupsAre("S=aSS;F=x;H=Hxy;0a00;2b1;1d;", "0/0 2/1 1/3", 1, new int[] {1, 12, 0, 192},
             new int[] {1, 2, 4, 8, 16, 32, 64}, 2);
         groupsAre("", "", 0, new int[] {0, 0, 0, 0}, new int[] {1, 0, 0, 0, 0, 0, 0}, 2);
@@ -524,6 +536,9 @@ public final class StateEdgesTest {
             new int[] {1, 0, 0, 0, 0, 0, 0}, 1);
         groupsAre("S=abSc;F=c;G=bx;H=y;0c;2c;1b0;", "0/2 2/2 1/1", 0, new int[] {0, 16, 4, 96},
             new int[] {1, 2, 1, 2, 1, 2, 1}, 2);
+        // In each of 12 rounds one nonterminal loses the typings of one state, the last state first.
+        groupsAre("S=Fc;F=Gx;G=Hxx;H=bS;0b1;1b2;", "0/1 1/1", 0, new int[] {0, 0, 0, 0},
+            new int[] {1, 1, 1, 1, 1, 1, 1}, 13);
     }
 
     private static void onACopy() {

@@ -250,7 +250,7 @@ public final class TreeEdgesTest {
     }
 
     private static void limitOfSymbolsBelowTheRoot() {
-        Check.sentence("THE TREE", "more than 200 symbols, below the root");
+        Check.sentence("THE TREE, below the root", "more than 200 symbols");
         // Seven times 26 symbols and six times a are 188.
         String start = "S=bF" + times("b", 25) + "c;F=";
         String rest = times("ax", 6) + "x;";
@@ -276,7 +276,7 @@ public final class TreeEdgesTest {
     }
 
     private static void limitOfExpansionsBelowTheRoot() {
-        Check.sentence("THE TREE", "after 40 expansions, below the root");
+        Check.sentence("THE TREE, below the root", "after 40 expansions");
         nodeIs("S=b" + times("F", 20) + "d;" + STEPS, 1, 'd', 1 + 40);
         nodeIs("S=b" + times("F", 20) + "Gd;" + STEPS, 1, UNDEFINED, 1 + 40);
         nodeIs("S=b" + times("F", 20) + "S;" + STEPS, 1, UNDEFINED, 1 + 40);
@@ -562,6 +562,7 @@ public final class TreeEdgesTest {
         due("rounds()", Check.loaded("S=Fc;F=Gx;G=Hxx;H=d;").rounds(), 5);
         due("rounds()", Check.loaded("S=c;F=S;G=Fx;H=Gx;").rounds(), 5);
         due("rounds()", Check.loaded("S=bS;0b1;1b2;F=Fx;G=Gx;H=Hxy;").rounds(), 4);
+        due("rounds()", Check.loaded("S=Fc;F=Gx;G=Hxx;H=bS;0b1;1b2;").rounds(), 13);
     }
 
     private static void lastRoundCounts() {
