@@ -32,6 +32,10 @@ final class Check {
         }
     }
 
+    static int count() {
+        return checks;
+    }
+
     static int wrongOnes() {
         return wrong;
     }

@@ -3,18 +3,22 @@ import java.util.Random;
 /** Random runs of calls, the same ones each time, on the program and on the oracle side by side. */
 public final class RandomRunsTest {
     private static final String ALL = "abcdSFGHxy";
-    private static final int CALLS = 40;
+    private static final int STEPS = 40;
+    /** What an object answers after 512 calls is free; a step makes up to 105 calls, the last look 180. */
+    private static final int CALLS_BEFORE_A_STEP = 512 - 105;
+    private static final int CALLS_BEFORE_THE_LAST_LOOK = 512 - 180;
 
     private final Random random;
     private final RecursionSchemes program = new RecursionSchemes();
     private final Oracle oracle = new Oracle();
+    private final int checksBefore = Check.count();
 
     private RandomRunsTest(long seed) {
         random = new Random(seed);
     }
 
     public static void main(String[] args) {
-        int runs = args.length > 0 ? Integer.parseInt(args[0]) : 400;
+        int runs = args.length > 0 ? Integer.parseInt(args[0]) : 500;
         for (int seed = 0; seed < runs && Check.wrongOnes() == 0; seed++) {
             Check.part("random run " + seed);
             new RandomRunsTest(seed).run();
@@ -25,7 +29,7 @@ public final class RandomRunsTest {
     private void run() {
         writeBoth(setup());
         Check.due("load()", program.load(), oracle.load());
-        for (int i = 0; i < CALLS && Check.wrongOnes() == 0; i++) {
+        for (int i = 0; i < STEPS && calls() <= CALLS_BEFORE_A_STEP && Check.wrongOnes() == 0; i++) {
             int kind = random.nextInt(100);
             if (kind < 12) {
                 textCall();
@@ -35,7 +39,14 @@ public final class RandomRunsTest {
                 question();
             }
         }
-        wholeState();
+        if (calls() <= CALLS_BEFORE_THE_LAST_LOOK) {
+            wholeState();
+        }
+    }
+
+    /** Each call of the program is checked once. */
+    private int calls() {
+        return Check.count() - checksBefore;
     }
 
     private int pick(int low, int high) {
